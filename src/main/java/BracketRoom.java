@@ -400,7 +400,7 @@ public final class BracketRoom {
         if (trouble != FINE) {
             return fail(trouble);
         }
-        boolean same = search.findsMap(desk.world, desk.shelves[shelf]);
+        boolean same = search.look(desk.world, desk.shelves[shelf], true);
         latestTries = search.tried;
         return search.spent ? fail(CANNOT) : answer(same ? 1 : 0);
     }
@@ -435,10 +435,11 @@ public final class BracketRoom {
         if (trouble == FINE) {
             trouble = gatherNumbers(tray, w.size * w.size, 0, w.prime - 1);
         }
-        if (trouble == FINE && !workshop.changeBase(w, numbers, w.size)) {
-            trouble = CANNOT;
+        if (trouble != FINE) {
+            return refuse(trouble);
         }
-        return trouble == FINE ? agree() : refuse(trouble);
+        workshop.layBase(w.size, numbers);
+        return workshop.changeBase(w) ? agree() : refuse(CANNOT);
     }
 
     public boolean squeeze(int tray) {
@@ -729,12 +730,16 @@ public final class BracketRoom {
 
     /** What is left of v by p, 0 to p less 1. */
     private static int mod(int v, int p) {
-        return p < 2 ? 0 : Math.floorMod(v, p);
+        if (p < 2) {
+            return 0;
+        }
+        int left = v % p;
+        return left < 0 ? left + p : left;
     }
 
     private static int inverse(int v, int p) {
         for (int other = 1; other < p; other++) {
-            if (mod(v * other, p) == 1) {
+            if (v * other % p == 1) {
                 return other;
             }
         }
@@ -792,19 +797,18 @@ public final class BracketRoom {
         }
 
         int cell(int i, int j, int k) {
-            return inside(i) && inside(j) && inside(k) ? table[(i * WIDE + j) * WIDE + k] : 0;
+            if (i < 0 || i >= size || j < 0 || j >= size || k < 0 || k >= size) {
+                return 0;
+            }
+            return table[(i * WIDE + j) * WIDE + k];
         }
 
         void setCell(int i, int j, int k, int v) {
-            if (i == j || !inside(i) || !inside(j) || !inside(k)) {
+            if (i == j || i < 0 || i >= size || j < 0 || j >= size || k < 0 || k >= size) {
                 return;
             }
             table[(i * WIDE + j) * WIDE + k] = mod(v, prime);
             table[(j * WIDE + i) * WIDE + k] = mod(-v, prime);
-        }
-
-        private boolean inside(int i) {
-            return i >= 0 && i < size;
         }
 
         int countCells() {
@@ -1072,14 +1076,15 @@ public final class BracketRoom {
 
         /** v becomes what is left of it without the SPAN: 0 wherever a row LEADS. */
         void reduce(int[] v) {
-            if (v.length < width) {
+            int p = prime;
+            if (p < 2 || v.length < width) {
                 return;
             }
             for (int l = 0; l < width; l++) {
                 int much = v[l];
-                if (much != 0 && leadsAt(l)) {
+                if (much != 0 && (leads >> l & 1) != 0) {
                     for (int c = l; c < width; c++) {
-                        v[c] = mod(v[c] - much * rows[l * stride + c], prime);
+                        v[c] = (v[c] + (p - much) * rows[l * stride + c]) % p;
                     }
                 }
             }
@@ -1184,25 +1189,22 @@ public final class BracketRoom {
         int seriesSize(World w, Echelon of, int k, boolean lowerOne) {
             now.copyFrom(of);
             for (int step = 0; step < k && now.count > 0; step++) {
+                Echelon by = lowerOne ? of : now;
                 later.begin(w.prime, w.size);
-                spanBrackets(w, lowerOne ? of : now);
+                for (int l = 0; l < w.size; l++) {
+                    for (int m = 0; m < w.size; m++) {
+                        if (now.leadsAt(l) && by.leadsAt(m)) {
+                            w.bracketInto(now.rows, l * WIDE, by.rows, m * WIDE, hand);
+                            later.add(hand, 0);
+                        }
+                    }
+                }
                 if (later.count == now.count) {
                     return now.count;
                 }
                 now.copyFrom(later);
             }
             return now.count;
-        }
-
-        private void spanBrackets(World w, Echelon by) {
-            for (int l = 0; l < w.size; l++) {
-                for (int m = 0; m < w.size; m++) {
-                    if (now.leadsAt(l) && by.leadsAt(m)) {
-                        w.bracketInto(now.rows, l * WIDE, by.rows, m * WIDE, hand);
-                        later.add(hand, 0);
-                    }
-                }
-            }
         }
 
         int wholeSeries(World w, int k, boolean lowerOne) {
@@ -1593,21 +1595,14 @@ public final class BracketRoom {
             }
         }
 
-        boolean findsMap(World from, World to) {
-            if (!from.isLike(to)) {
-                tried = 0;
-                spent = false;
-                return false;
-            }
-            look(from, to, true);
-            return found > 0;
-        }
-
-        /** Both are of one PRIME and SIZE. */
-        void look(World from, World to, boolean first) {
+        /** Counts MAPS, or looks for the first alone; whether there was one. */
+        boolean look(World from, World to, boolean first) {
             tried = 0;
             found = 0;
             spent = false;
+            if (!from.isLike(to)) {
+                return false;
+            }
             noteDue(from);
             int last = to.vectors() - 1;
             int level = 0;
@@ -1620,7 +1615,7 @@ public final class BracketRoom {
                 }
                 if (tried >= TRIES_AT_MOST) {
                     spent = true;
-                    return;
+                    break;
                 }
                 tried++;
                 set[level]++;
@@ -1635,9 +1630,10 @@ public final class BracketRoom {
                 }
                 found++;
                 if (first) {
-                    return;
+                    break;
                 }
             }
+            return found > 0;
         }
 
         /** A couple is looked at as soon as it and all that its BRACKET has are set. */
@@ -1739,7 +1735,7 @@ public final class BracketRoom {
         private boolean isSeen(int p, int n, int kindsSeen) {
             for (int i = 0; i < kindsSeen; i++) {
                 other.decode(p, n, kinds[i]);
-                if (findsMap(one, other)) {
+                if (look(one, other, true)) {
                     return true;
                 }
             }
@@ -1756,13 +1752,12 @@ public final class BracketRoom {
         private final int[] hand = new int[WIDE];
         private final int[] kept = new int[WIDE];
 
-        /** The new BASE vectors are the rows of numbers, each so long; false if they don't span all. */
-        boolean changeBase(World w, int[] numbers, int stride) {
+        /** The new BASE vectors are the rows of base; false, and nothing done, if they don't span all. */
+        boolean changeBase(World w) {
             int n = w.size;
             both.begin(w.prime, 2 * n);
             for (int i = 0; i < n; i++) {
-                for (int k = 0; k < n && i * stride + k < numbers.length; k++) {
-                    base[i * WIDE + k] = mod(numbers[i * stride + k], w.prime);
+                for (int k = 0; k < n; k++) {
                     row[k] = base[i * WIDE + k];
                     row[n + k] = i == k ? 1 : 0;
                 }
@@ -1794,38 +1789,50 @@ public final class BracketRoom {
             }
         }
 
-        boolean swapBase(World w, int i, int j) {
-            if (i == j || i >= w.size || j >= w.size) {
+        /** The n rows of n numbers become those of base. */
+        void layBase(int n, int[] numbers) {
+            for (int i = 0; i < n && i < WIDE; i++) {
+                for (int k = 0; k < n && k < WIDE && i * n + k < numbers.length; k++) {
+                    base[i * WIDE + k] = numbers[i * n + k];
+                }
+            }
+        }
+
+        /** base is made ready to exchange two; false if that can't be. */
+        boolean laySwap(World w, int i, int j) {
+            if (i == j || !isBaseOf(w, i) || !isBaseOf(w, j)) {
                 return false;
             }
-            beginUnits();
+            System.arraycopy(UNITS, 0, base, 0, SQUARE);
             base[i * WIDE + i] = 0;
             base[j * WIDE + j] = 0;
             base[i * WIDE + j] = 1;
             base[j * WIDE + i] = 1;
-            return changeBase(w, base, WIDE);
+            return true;
         }
 
-        boolean scaleBase(World w, int i, int much) {
-            if (i >= w.size || mod(much, w.prime) == 0) {
+        boolean layScale(World w, int i, int much) {
+            int factor = mod(much, w.prime);
+            if (factor == 0 || !isBaseOf(w, i)) {
                 return false;
             }
-            beginUnits();
-            base[i * WIDE + i] = much;
-            return changeBase(w, base, WIDE);
-        }
-
-        boolean addBase(World w, int much, int i, int j) {
-            if (i == j || i >= w.size || j >= w.size) {
-                return false;
-            }
-            beginUnits();
-            base[j * WIDE + i] = much;
-            return changeBase(w, base, WIDE);
-        }
-
-        private void beginUnits() {
             System.arraycopy(UNITS, 0, base, 0, SQUARE);
+            base[i * WIDE + i] = factor;
+            return true;
+        }
+
+        /** So much of i is to come to j. */
+        boolean layAdd(World w, int much, int i, int j) {
+            if (i == j || !isBaseOf(w, i) || !isBaseOf(w, j)) {
+                return false;
+            }
+            System.arraycopy(UNITS, 0, base, 0, SQUARE);
+            base[j * WIDE + i] = mod(much, w.prime);
+            return true;
+        }
+
+        private static boolean isBaseOf(World w, int i) {
+            return i >= 0 && i < w.size;
         }
 
         boolean squeezeBy(World w, int[] weights) {
@@ -1983,31 +1990,21 @@ public final class BracketRoom {
             }
             int first = tape[start];
             if (isLetter(first)) {
-                readWord();
+                kind = WORD;
+                while (end < length && isLetter(tape[end])) {
+                    end++;
+                }
             } else if (isDigit(first)) {
-                readNumber();
+                value = 0;
+                while (end < length && isDigit(tape[end])) {
+                    value = end - start < DIGITS_AT_MOST ? value * 10 + tape[end] - '0' : value;
+                    end++;
+                }
+                kind = end - start > DIGITS_AT_MOST ? BAD : NUMBER;
             } else {
                 end = start + 1;
                 kind = first == ';' || first == '<' || first == '>' || first == '=' ? SIGN : BAD;
             }
-        }
-
-        private void readWord() {
-            while (end < length && isLetter(tape[end])) {
-                end++;
-            }
-            kind = WORD;
-        }
-
-        private void readNumber() {
-            value = 0;
-            while (end < length && isDigit(tape[end])) {
-                if (end - start < DIGITS_AT_MOST) {
-                    value = value * 10 + tape[end] - '0';
-                }
-                end++;
-            }
-            kind = end - start > DIGITS_AT_MOST ? BAD : NUMBER;
         }
 
         private static boolean isBlank(int c) {
@@ -2171,7 +2168,8 @@ public final class BracketRoom {
             }
             t.advance();
             set(lines, 0, what);
-            if (!readRest(t, what) || !t.takeSign(';')) {
+            boolean good = what == WHEN ? readTest(t) : readRest(t, what);
+            if (!good || !t.takeSign(';')) {
                 return false;
             }
             if (opens) {
@@ -2226,8 +2224,6 @@ public final class BracketRoom {
                     return number(t, 1, 0, SHELVES - 1);
                 case LOOP:
                     return number(t, 1, 1, 99);
-                case WHEN:
-                    return readTest(t);
                 default:
                     return true;
             }
@@ -2386,7 +2382,8 @@ public final class BracketRoom {
 
         private int behindEnd(Script script, int line) {
             int begin = script.get(line, Script.PARTNER);
-            if (script.get(begin, 0) == Script.LOOP && turns[begin] > 1) {
+            boolean loops = begin >= 0 && begin < turns.length && script.get(begin, 0) == Script.LOOP;
+            if (loops && turns[begin] > 1) {
                 turns[begin]--;
                 return begin + 1;
             }
@@ -2413,7 +2410,7 @@ public final class BracketRoom {
                 case Script.SIZE:
                     return Integer.compare(w.size, second) == wanted;
                 default:
-                    return desk.holdsOn(first) && search.findsMap(w, desk.shelves[first]);
+                    return desk.holdsOn(first) && search.look(w, desk.shelves[first], true);
             }
         }
 
@@ -2423,11 +2420,11 @@ public final class BracketRoom {
             int b = desk.script.get(line, 2);
             switch (desk.script.get(line, 0)) {
                 case Script.SWAP:
-                    return workshop.swapBase(w, a, b);
+                    return workshop.laySwap(w, a, b) && workshop.changeBase(w);
                 case Script.SCALE:
-                    return workshop.scaleBase(w, a, b);
+                    return workshop.layScale(w, a, b) && workshop.changeBase(w);
                 case Script.ADD:
-                    return workshop.addBase(w, a, b, desk.script.get(line, 3));
+                    return workshop.layAdd(w, a, b, desk.script.get(line, 3)) && workshop.changeBase(w);
                 case Script.KEEP:
                     return desk.putOn(a);
                 case Script.TAKE:
