@@ -2039,6 +2039,27 @@ public final class BracketRoom {
             return true;
         }
 
+        /** Which word of a list, with a blank behind each, stands here: counted from 1, 0 if none does. */
+        int wordAmong(String list) {
+            int which = 1;
+            int at = start;
+            boolean alike = kind == WORD;
+            for (int i = 0; i < list.length(); i++) {
+                char c = list.charAt(i);
+                if (c != ' ') {
+                    alike = alike && at < end && tape[at] == c;
+                    at++;
+                } else if (alike && at == end) {
+                    return which;
+                } else {
+                    which++;
+                    at = start;
+                    alike = kind == WORD;
+                }
+            }
+            return 0;
+        }
+
         boolean takeSign(char sign) {
             if (!isSign(sign)) {
                 return blame(CANT_STAND);
@@ -2097,6 +2118,9 @@ public final class BracketRoom {
         static final int SIZE = 6;
         static final int SAME = 7;
         static final int PARTNER = 5;
+        // In the order of the numbers above, from 1 on.
+        private static final String STEP_WORDS = "swap scale add keep take sum when loop stop ";
+        private static final String TEST_WORDS = "lawful abelian nilpotent solvable derived size same ";
         static final int LINES_AT_MOST = 60;
         private static final int STRIDE = 6;
         private static final int STEPS_TOLD_AT_MOST = 30;
@@ -2155,7 +2179,7 @@ public final class BracketRoom {
         }
 
         private boolean readStep(Tokens t) {
-            int what = stepWord(t);
+            int what = t.wordAmong(STEP_WORDS);
             if (what == 0) {
                 return t.blame(Tokens.CANT_STAND);
             }
@@ -2179,34 +2203,6 @@ public final class BracketRoom {
             steps++;
             lines++;
             return true;
-        }
-
-        private static int stepWord(Tokens t) {
-            if (t.isWord("swap")) {
-                return SWAP;
-            }
-            if (t.isWord("scale")) {
-                return SCALE;
-            }
-            if (t.isWord("add")) {
-                return ADD;
-            }
-            if (t.isWord("keep")) {
-                return KEEP;
-            }
-            if (t.isWord("take")) {
-                return TAKE;
-            }
-            if (t.isWord("sum")) {
-                return SUM;
-            }
-            if (t.isWord("when")) {
-                return WHEN;
-            }
-            if (t.isWord("loop")) {
-                return LOOP;
-            }
-            return t.isWord("stop") ? STOP : 0;
         }
 
         private boolean readRest(Tokens t, int what) {
@@ -2239,7 +2235,7 @@ public final class BracketRoom {
         }
 
         private boolean readTest(Tokens t) {
-            int test = testWord(t);
+            int test = t.wordAmong(TEST_WORDS);
             if (test == 0) {
                 return t.blame(Tokens.CANT_STAND);
             }
@@ -2255,28 +2251,6 @@ public final class BracketRoom {
                 default:
                     return true;
             }
-        }
-
-        private static int testWord(Tokens t) {
-            if (t.isWord("lawful")) {
-                return LAWFUL;
-            }
-            if (t.isWord("abelian")) {
-                return ABELIAN;
-            }
-            if (t.isWord("nilpotent")) {
-                return NILPOTENT;
-            }
-            if (t.isWord("solvable")) {
-                return SOLVABLE;
-            }
-            if (t.isWord("derived")) {
-                return DERIVED;
-            }
-            if (t.isWord("size")) {
-                return SIZE;
-            }
-            return t.isWord("same") ? SAME : 0;
         }
 
         /** Held as what compare() of two numbers gives where it is so. */

@@ -171,6 +171,10 @@ public final class PromisesTest {
         Hand.refused(r, "pour(0, HIGH, 1, 0, HIGH)", r.pour(0, HIGH, 1, 0, HIGH), 4);
         Hand.refused(r, "pour(0, 1, 1, 0, HIGH)", r.pour(0, 1, 1, 0, HIGH), 4);
         Hand.due("read(1, 1) behind refusals", r.read(1, 1), 2);
+        r.tray(3, 1, 0);
+        Hand.granted(r, "pour(3, 0, 1, 0, 0) of an empty tray", r.pour(3, 0, 1, 0, 0));
+        Hand.granted(r, "pour(1, 3, 3, 0, 0) to an empty tray", r.pour(1, 3, 3, 0, 0));
+        Hand.refused(r, "pour(1, 0, 3, 0, 1)", r.pour(1, 0, 3, 0, 1), 4);
     }
 
     private static void feeding() {
@@ -232,6 +236,14 @@ public final class PromisesTest {
         Hand.granted(r, "world(16) of a longer tape", r.world(16), 1);
         Hand.refused(r, "world(1) of the tape that is empty then", r.world(1), 5);
         Hand.due("fault(0) behind 5", r.fault(0), 0);
+        Hand.feed(r, "prime 2; size 12; ");
+        Hand.refused(r, "world(15), which ends within a number", r.world(15), 10);
+        Hand.due("fault(0)", r.fault(0), 2);
+        Hand.due("fault(1)", r.fault(1), 15);
+        Hand.feed(r, "stops;");
+        Hand.refused(r, "script(4), which ends within a word", r.script(4), 10);
+        Hand.due("fault(0)", r.fault(0), 2);
+        Hand.due("fault(1)", r.fault(1), 4);
         r.keep(1);
         Hand.script(r, "stop;");
         Hand.world(r, AFFINE);
@@ -543,6 +555,8 @@ public final class PromisesTest {
         // By 2 the MATRIX of 0 has the TRACE 2, which is 0.
         kind("prime 2; size 3; bracket 0 1 gives 1 of 1; bracket 0 2 gives 1 of 2;", 0, 0, 1, 0, 0, 1);
         kind("prime 3; size 3; bracket 0 1 gives 1 of 1; bracket 0 2 gives 1 of 2;", 0, 0, 1, 0, 0, 0);
+        // The only ideal but 0 and all is the line of the very first vector.
+        kind("prime 2; size 2; bracket 0 1 gives 1 of 0;", 0, 0, 1, 0, 0, 0);
         kind("prime 3; size 4; bracket 0 1 gives 1 of 2; bracket 1 2 gives 1 of 0; bracket 0 2 gives less 1 of 1;",
                 0, 0, 0, 0, 0, 1);
     }
