@@ -1,3 +1,7 @@
+import java.util.function.Predicate;
+import java.util.function.Supplier;
+import java.util.function.ToLongFunction;
+
 /** What the hand-written tests share: it brings texts to a room, and counts answers that are not as due. */
 final class Hand {
     private static int wrong;
@@ -42,6 +46,73 @@ final class Hand {
     static void granted(BracketRoom room, String call, boolean got) {
         due(call, got, true);
         due("status() after " + call, room.status(), 0);
+    }
+
+    /** A call that must be refused and change nothing that can be asked for but the STATUS. */
+    static void kept(Supplier<BracketRoom> maker, String call, int status, ToLongFunction<BracketRoom> made) {
+        BracketRoom room = maker.get();
+        refused(room, call, made.applyAsLong(room), status);
+        due("what is seen behind " + call, seen(room).equals(seen(maker.get())), true);
+    }
+
+    static void keptFalse(Supplier<BracketRoom> maker, String call, int status, Predicate<BracketRoom> made) {
+        BracketRoom room = maker.get();
+        refused(room, call, made.test(room), status);
+        due("what is seen behind " + call, seen(room).equals(seen(maker.get())), true);
+    }
+
+    /** All that can be asked for: FAULT, FRACTION, what ran, TRAYS, TABLE, SHELVES, MARKS, SCRIPT, how long the tape is. */
+    static String seen(BracketRoom room) {
+        StringBuilder s = new StringBuilder();
+        s.append(room.fault(0)).append(' ').append(room.fault(1)).append(' ');
+        s.append(room.top()).append('/').append(room.bottom()).append(' ');
+        s.append(room.tries()).append(' ').append(room.ran(0)).append(' ').append(room.ran(1)).append('\n');
+        for (int tray = 0; tray < 4; tray++) {
+            for (int place = 0; place <= 60; place++) {
+                long v = room.read(tray, place);
+                s.append(room.status() == 0 ? v : room.status() == 3 ? "missing" : "end").append(' ');
+                if (room.status() != 0) {
+                    break;
+                }
+            }
+        }
+        s.append('\n');
+        table(room, s);
+        for (int shelf = 0; shelf < 4; shelf++) {
+            if (room.take(shelf)) {
+                s.append("shelf ").append(shelf).append(' ');
+                table(room, s);
+            }
+        }
+        s.append("SCRIPT ").append(room.run()).append(' ').append(room.ran(0)).append(' ');
+        table(room, s);
+        while (room.back() >= 0) {
+            s.append("MARK ");
+            table(room, s);
+        }
+        return s.append("tape ").append(room.feed(0, 0, 0, 0, 0)).toString();
+    }
+
+    static String table(BracketRoom room) {
+        StringBuilder s = new StringBuilder();
+        table(room, s);
+        return s.toString();
+    }
+
+    private static void table(BracketRoom room, StringBuilder s) {
+        int n = room.many(1);
+        s.append(room.many(0)).append(' ').append(n).append(' ').append(room.many(2)).append(' ').append(room.many(3));
+        for (int i = 0; i < n; i++) {
+            for (int j = i + 1; j < n; j++) {
+                for (int k = 0; k < n; k++) {
+                    int c = room.constant(i, j, k);
+                    if (c != 0) {
+                        s.append(" [").append(i).append(' ').append(j).append("] ").append(c).append(" of ").append(k);
+                    }
+                }
+            }
+        }
+        s.append('\n');
     }
 
     /** The text's bytes come to the tape, with blanks behind them up to a whole feed(). */
