@@ -51,6 +51,7 @@ public final class EdgesTest {
         classes();
         tries();
         exactlySpent();
+        lastTry();
         unlikeWorlds();
         parted();
         changeEdges();
@@ -856,6 +857,38 @@ public final class EdgesTest {
         r.mark();
         r.back();
         Hand.granted(r, "tries()", r.tries(), 200000);
+    }
+
+    /**
+     * The WORLD that the one on SHELF 0 becomes if VECTORS 2, 254 and last are its BASE. The BRACKET of the first two has
+     * some of the third, so nothing but SPANS bars images ahead of that: 2 and 254 are set after 199,984 TRIES.
+     */
+    private static BracketRoom foundAt(int last) {
+        BracketRoom r = room("prime 7; size 3; bracket 0 1 gives 1 of 0; bracket 0 2 gives 1 of 2; bracket 1 2 gives 1 of 1;");
+        r.keep(0);
+        Hand.fill(r, 0, 0, 2, 0, 0, 2, 1, 5, last % 7, last / 7 % 7, last / 49);
+        Hand.granted(r, "change(0)", r.change(0));
+        Hand.due("the third is looked at last", r.constant(0, 1, 2) != 0, true);
+        return r;
+    }
+
+    private static void lastTry() {
+        Hand.about("at most 200,000: a MAP that is found by the last of them");
+        for (int last = 15; last <= 18; last++) {
+            BracketRoom r = foundAt(last);
+            int due = 199984 + last;
+            Hand.script(r, "when same 0; keep 3; end;");
+            if (due <= 200000) {
+                Hand.granted(r, "sameAs(0), found at " + due, r.sameAs(0), 1);
+                Hand.granted(r, "tries()", r.tries(), due);
+            } else {
+                Hand.refused(r, "sameAs(0), found at " + due, r.sameAs(0), 9);
+                Hand.granted(r, "tries()", r.tries(), 200000);
+            }
+            Hand.granted(r, "run() of a when same, found at " + due, r.run(), due <= 200000 ? 2 : 1);
+            Hand.granted(r, "many(3)", r.many(3), due <= 200000 ? 9 : 1);
+            Hand.granted(r, "ran(0)", r.ran(0), 0);
+        }
     }
 
     private static void unlikeWorlds() {
